@@ -322,6 +322,14 @@ public final class ModelTest {
     due("octet(" + b + ")", real.octet(b), want);
   }
 
+  /** Steps alone seldom make long texts: some runs begin with one, up to more than there is room for. */
+  private void begin() {
+    int n = random.nextInt(125);
+    for (int i = 0; i < n; i++) {
+      octet();
+    }
+  }
+
   private void cut() {
     int had = model.text.size();
     int n = random.nextInt(3) == 0 ? index(had) : had - random.nextInt(4);
@@ -434,6 +442,7 @@ public final class ModelTest {
     for (int seed = 1; seed <= RUNS && wrong < 50; seed++) {
       ModelTest run = new ModelTest(seed);
       int end = calls + CALLS;
+      run.begin();
       while (calls < end) {
         run.step();
       }
