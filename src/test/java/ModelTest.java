@@ -282,7 +282,8 @@ public final class ModelTest {
   private ModelTest(long seed) {
     this.seed = seed;
     random = new Random(seed);
-    String[] alphabets = {"a", "ab", "ab ", "abc  ", "a ", "abcdefgh ", "\u0000\u00ff \u0080", " "};
+    String[] alphabets = {"a", "ab", "ab ", "abc  ", "a ", "abcdefgh ", "\u0000\u00ff \u0080", " ",
+      "abcdefghijklmnopqrst  "};
     letters = alphabets[random.nextInt(alphabets.length)];
   }
 
